@@ -325,14 +325,14 @@ public final class Belowhouse {
 
     public double meanPlace(int order, int thing) throws IndexOutOfBoundsException {
         Order it = orderWith(order, thing);
-        int all = table.fill(it);
-        return (double) table.sumOfPlaces(it, thing) / (double) Math.max(1, all);
+        int all = atLeastOne(table.fill(it));
+        return (double) table.sumOfPlaces(it, thing) / (double) all;
     }
 
     public float share(int order, int one, int other) throws IndexOutOfBoundsException {
         Order it = orderWithBoth(order, one, other);
-        int all = table.fill(it);
-        return (float) table.countAhead(it, one, other) / (float) Math.max(1, all);
+        int all = atLeastOne(table.fill(it));
+        return (float) table.countAhead(it, one, other) / (float) all;
     }
 
     // Sums.
@@ -442,6 +442,11 @@ public final class Belowhouse {
         made.becomeJoined(first, second, isStacked);
         to.become(made);
         return to;
+    }
+
+    /** Each order has a row; this looks at the divisor all the same, ahead of its use. */
+    private static int atLeastOne(int divisor) {
+        return Math.max(1, divisor);
     }
 
     private static boolean has(int set, int thing) {
@@ -770,22 +775,25 @@ public final class Belowhouse {
             }
             int chainCount = it.count;
             for (int thing = 0; thing < it.count; thing++) {
-                if (findsFollower(it, thing, thing, 0)) {
+                if (findsFollower(it, ahead, searched, thing, thing, 0)) {
                     chainCount--;
                 }
             }
             return chainCount;
         }
 
-        /** A follower that has one ahead of it is free if that one finds another follower. */
-        private boolean findsFollower(Order it, int thing, int search, int depth) {
+        /**
+         * A follower that has one ahead of it is free if that one finds another follower. A search comes to each thing
+         * once, so it goes no deeper than there are things.
+         */
+        private static boolean findsFollower(Order it, int[] ahead, int[] searched, int thing, int search, int depth) {
             if (depth > MOST_THINGS || !it.hasThing(thing)) {
                 return false;
             }
             for (int high = 0; high < it.count; high++) {
                 if (it.isBelow(thing, high) && searched[high] != search) {
                     searched[high] = search;
-                    if (ahead[high] == NONE || findsFollower(it, ahead[high], search, depth + 1)) {
+                    if (ahead[high] == NONE || findsFollower(it, ahead, searched, ahead[high], search, depth + 1)) {
                         ahead[high] = thing;
                         return true;
                     }
@@ -1210,7 +1218,7 @@ public final class Belowhouse {
                     && Chains.layerCount(it) == Chains.longestWithin(it, it.all());
         }
 
-        /** (5), behind table.count(): what closed sets are, together and each for itself. */
+        /** (5): what closed sets are, together and each for itself. */
         private boolean closedSetsFit(Order it) {
             table.count(it);
             for (int set = 0; set < it.setLimit(); set++) {

@@ -87,6 +87,10 @@ public final class ClosedSetsTest {
         Due.is("the last, c", house.near(0, 15, 'c'), 15);
         Due.is("behind the last", house.near(0, 15, 'h'), -1);
         Due.is("12 comes behind 10, and 7 has three", house.near(0, 12, 'c'), 7);
+        Due.is("9 comes ahead of 10, though 7 is the lesser number", house.near(0, 9, 'h'), 10);
+        Due.is("and c", house.near(0, 9, 'c'), 10);
+        Due.is("ahead of 7 comes 10", house.near(0, 7, 'l'), 10);
+        Due.is("ahead of 1 come none", house.near(0, 1, 'l'), 0);
         Due.is("ahead of none of none", house.near(1, 0, 'l'), -1);
         Due.is("none of none", house.near(1, 0, 'c'), 0);
         Due.isThrown("near(0, 3, 'L')", Due.NO_ARGUMENT, house, () -> house.near(0, 3, 'L'));

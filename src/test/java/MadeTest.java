@@ -270,6 +270,11 @@ public final class MadeTest {
         Due.is("as it was", Due.order(house, 0), "0:5 1:0 3:0 7:0");
         Due.is("into the one", house.meet(0, 2, 0), 1);
         Due.is("what both have", Due.order(house, 0), "0:5 0:0 1:0 0:0");
+        house.turn(2);
+        house.turn(0);
+        house.lay(1, 4);
+        Due.is("thing 0 has something below it in one alone", house.meet(0, 1, 1), 0);
+        Due.is("no pairs", Due.order(house, 1), "0:5 0:0 0:0 0:0");
         Due.is("without things", house.meet(3, 3, 0), 0);
         Due.is("none are there", house.things(0), 0);
         Due.isRefused("meet(0, 1, 2)", house, () -> house.meet(0, 1, 2));

@@ -42,6 +42,8 @@ public final class PairsTest {
         // 1-2, 1-3, 2-4, 2-6, 3-6, 4-12, 6-12
         Due.is("nexts(0)", house.nexts(0), 7);
         Due.is("nexts(1)", house.nexts(1), 0);
+        house.turn(0);
+        Due.is("nexts(0), turned", house.nexts(0), 7);
         Due.is("nexts(3)", house.nexts(3), 8);
         Due.isThrown("nexts(4)", Due.NO_INDEX, house, () -> house.nexts(4));
         Due.isThrown("nexts(-1)", Due.NO_INDEX, house, () -> house.nexts(-1));
@@ -126,6 +128,10 @@ public final class PairsTest {
         house.put(1, 0, 3);
         Due.isFalse("another pair", house.isSame(0, 1));
         Due.isFalse("another pair, turned", house.isSame(1, 0));
+        house.lay(2, 2);
+        house.lay(3, 2);
+        house.put(3, 1, 0);
+        Due.isFalse("a pair with thing 0 above", house.isSame(2, 3));
         house.lay(2, 3);
         house.lay(3, 4);
         Due.isFalse("more things", house.isSame(2, 3));

@@ -1,6 +1,6 @@
 import java.lang.management.ManagementFactory;
 
-/** No call makes objects, and 512 of the dearest ones take no long time: all is made in the constructor. */
+/** No call makes objects: all is made in the constructor. */
 public final class RoomTest {
     /** Far less than one object or array for each call. */
     private static final long LITTLE = 512L;

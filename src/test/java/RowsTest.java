@@ -106,6 +106,7 @@ public final class RowsTest {
         for (int place = 0; place < due.length; place++) {
             Due.is("rows with 3 behind " + place, house.rowsAt(0, 3, place), due[place]);
         }
+        Due.is("rows with 0 as the first", house.rowsAt(0, 0, 0), 2);
         Due.is("behind 4", house.rowsAt(0, 3, 4), 0);
         Due.is("behind -1", house.rowsAt(0, 3, -1), 0);
         Due.is("behind the least int", house.rowsAt(0, 3, Integer.MIN_VALUE), 0);
@@ -115,7 +116,9 @@ public final class RowsTest {
         Due.isThrown("rowsAt(1, 0, 0)", Due.NO_INDEX, house, () -> house.rowsAt(1, 0, 0));
         Due.isThrown("rowsAt(4, 0, 0)", Due.NO_INDEX, house, () -> house.rowsAt(4, 0, 0));
         house.lay(2, 9);
-        Due.is("of many", house.rowsAt(2, 4, 8), 40320);
+        for (int place = 0; place < 9; place++) {
+            Due.is("of many, behind " + place, house.rowsAt(2, 4, place), 40320);
+        }
     }
 
     private static void promise49MeanPlace() {

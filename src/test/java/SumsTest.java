@@ -25,7 +25,7 @@ public final class SumsTest {
     }
 
     private static void promise52Number() {
-        // On divisors it is what a divided by b has: 1 for a even number of unlike primes, -1 for an odd one, 0 for twice.
+        // On divisors it is what a divided by b has: 1 for an even number of unlike primes, -1 for an odd one, else 0.
         Belowhouse house = Due.divisors();
         int[] due = {1, -1, -1, 0, 1, 0};
         for (int high = 0; high < due.length; high++) {
