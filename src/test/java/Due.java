@@ -62,7 +62,8 @@ final class Due {
     /** One order: of each thing the set of all below it, and its value. */
     static String order(Belowhouse house, int order) {
         StringBuilder text = new StringBuilder();
-        for (int thing = 0; thing < house.things(order); thing++) {
+        int many = house.things(order);
+        for (int thing = 0; thing < many; thing++) {
             text.append(thing == 0 ? "" : " ").append(house.lower(order, thing)).append(':');
             text.append(house.value(order, thing));
         }

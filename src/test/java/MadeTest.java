@@ -228,8 +228,9 @@ public final class MadeTest {
         Due.isThrown("beside(0, 1, 4)", Due.NO_INDEX, house, () -> house.beside(0, 1, 4));
         Due.isThrown("beside(4, 1, 0)", Due.NO_INDEX, house, () -> house.beside(4, 1, 0));
         Due.isThrown("beside(0, -1, 0)", Due.NO_INDEX, house, () -> house.beside(0, -1, 0));
-        house.lay(0, 5);
-        Due.isThrown("10 things", Due.NO_STATE, house, () -> house.beside(0, 0, 1));
+        Belowhouse five = new Belowhouse();
+        five.lay(0, 5);
+        Due.isThrown("10 things", Due.NO_STATE, five, () -> five.beside(0, 0, 1));
     }
 
     private static void promise14Above() {

@@ -14,10 +14,13 @@ final class Model {
     private final int[][] values = new int[4][];
     /** The rows of each order in their sequence, or null if they must be made anew. */
     private final List<List<Integer>> rows = new ArrayList<>();
+    /** The closed sets of each order in their sequence, or null if they must be made anew. */
+    private final List<TreeSet<Integer>> closedSets = new ArrayList<>();
 
     Model() {
         for (int order = 0; order < 4; order++) {
             rows.add(null);
+            closedSets.add(null);
             set(order, new boolean[0][0], new int[0]);
         }
     }
@@ -25,7 +28,12 @@ final class Model {
     private void set(int order, boolean[][] pairs, int[] itsValues) {
         under[order] = pairs;
         values[order] = itsValues;
+        forget(order);
+    }
+
+    private void forget(int order) {
         rows.set(order, null);
+        closedSets.set(order, null);
     }
 
     private static void need(boolean isThere) {
@@ -84,7 +92,7 @@ final class Model {
 
     int add(int order, int value) {
         needOrder(order);
-        want(Math.abs(value) <= 1000);
+        want(value >= -1000 && value <= 1000);
         int had = things(order);
         if (had == 9) {
             throw new IllegalStateException();
@@ -124,7 +132,7 @@ final class Model {
 
     int setValue(int order, int thing, int value) {
         needThing(order, thing);
-        want(Math.abs(value) <= 1000);
+        want(value >= -1000 && value <= 1000);
         int had = values[order][thing];
         values[order][thing] = value;
         return had;
@@ -139,7 +147,7 @@ final class Model {
         int had = pairs(order);
         under[order][low][high] = true;
         follow(order);
-        rows.set(order, null);
+        forget(order);
         return pairs(order) - had;
     }
 
@@ -167,7 +175,7 @@ final class Model {
             return -9;
         }
         under[order][low][high] = false;
-        rows.set(order, null);
+        forget(order);
         return pairs(order);
     }
 
@@ -180,7 +188,7 @@ final class Model {
                 under[order][digits.charAt(one) - '1'][digits.charAt(other) - '1'] = true;
             }
         }
-        rows.set(order, null);
+        forget(order);
         return pairs(order) - had;
     }
 
@@ -441,13 +449,16 @@ final class Model {
 
     private TreeSet<Integer> closedSets(int order) {
         needOrder(order);
-        TreeSet<Integer> found = new TreeSet<>(SEQUENCE);
-        for (int set = 0; set < 1 << things(order); set++) {
-            if (isClosed(order, set)) {
-                found.add(set);
+        if (closedSets.get(order) == null) {
+            TreeSet<Integer> found = new TreeSet<>(SEQUENCE);
+            for (int set = 0; set < 1 << things(order); set++) {
+                if (isClosed(order, set)) {
+                    found.add(set);
+                }
             }
+            closedSets.set(order, found);
         }
-        return found;
+        return closedSets.get(order);
     }
 
     int sets(int order) {
@@ -520,7 +531,7 @@ final class Model {
         if (things(one) != things(other)) {
             return -9;
         }
-        TreeSet<Integer> both = closedSets(one);
+        TreeSet<Integer> both = new TreeSet<>(closedSets(one));
         both.retainAll(closedSets(other));
         return both.size();
     }

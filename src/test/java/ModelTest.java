@@ -1,6 +1,10 @@
 /** Long runs of calls, each with the answer of the model; the same runs each time. */
 public final class ModelTest {
+    /** What an object answers to later calls is free. */
     private static final int CALLS = 512;
+    private static final int RUNS = 500;
+    /** Looks at five orders take no more calls than this. */
+    private static final int LOOKS = 5 * (1 + 2 * 9);
     private static final String WAYS = "lfchx";
 
     /** A sequence of numbers that looks mixed, and is the same each time. */
@@ -10,6 +14,8 @@ public final class ModelTest {
     private final int run;
     /** Runs with few things try all kinds of calls quickly; some go up to 9. */
     private final int most;
+    /** How many calls the object may still be asked. */
+    private int left = CALLS;
 
     private ModelTest(int run) {
         this.run = run;
@@ -18,13 +24,31 @@ public final class ModelTest {
     }
 
     public static void main(String[] args) {
-        for (int run = 0; run < 240; run++) {
-            ModelTest test = new ModelTest(run);
-            for (int call = 0; call < CALLS; call++) {
-                test.callSome();
-            }
+        for (int run = 0; run < RUNS; run++) {
+            new ModelTest(run).goOn();
         }
         Due.end("ModelTest");
+    }
+
+    /** Half of the runs look at the orders now and then; the others ask up to the last call that counts. */
+    private void goOn() {
+        boolean areLookedAt = run % 2 == 0;
+        while (left > (areLookedAt ? LOOKS : 0)) {
+            callSome();
+            if (areLookedAt && below(6) == 0) {
+                lookAt(below(4));
+            }
+        }
+        if (areLookedAt) {
+            for (int order = 0; order < 4; order++) {
+                lookAt(order);
+            }
+        }
+    }
+
+    private void lookAt(int order) {
+        same("order " + order, () -> Due.order(house, order), () -> orderOfModel(order));
+        left -= 2 * model.things(order);
     }
 
     private int below(int limit) {
@@ -76,6 +100,7 @@ public final class ModelTest {
     }
 
     private void same(String what, Due.Call ours, Due.Call due) {
+        left--;
         Due.is("run " + run + ": " + what, Due.outcome(ours), Due.outcome(due));
     }
 
@@ -90,17 +115,13 @@ public final class ModelTest {
         } else {
             askRows();
         }
-        same("things", () -> Due.state(house), this::stateOfModel);
     }
 
-    private String stateOfModel() {
+    private String orderOfModel(int order) {
         StringBuilder text = new StringBuilder();
-        for (int order = 0; order < 4; order++) {
-            for (int thing = 0; thing < model.things(order); thing++) {
-                text.append(thing == 0 ? "" : " ").append(model.lower(order, thing)).append(':');
-                text.append(model.value(order, thing));
-            }
-            text.append(order == 3 ? "" : " / ");
+        for (int thing = 0; thing < model.things(order); thing++) {
+            text.append(thing == 0 ? "" : " ").append(model.lower(order, thing)).append(':');
+            text.append(model.value(order, thing));
         }
         return text.toString();
     }

