@@ -225,11 +225,12 @@ public final class MadeTest {
         house.lay(3, 1);
         Due.is("9 things", house.beside(3, 0, 3), 9);
         Due.isThrown("beside(0, 1, 0)", Due.NO_STATE, house, () -> house.beside(0, 1, 0));
-        Due.isThrown("beside(0, 1, 4)", Due.NO_INDEX, house, () -> house.beside(0, 1, 4));
-        Due.isThrown("beside(4, 1, 0)", Due.NO_INDEX, house, () -> house.beside(4, 1, 0));
-        Due.isThrown("beside(0, -1, 0)", Due.NO_INDEX, house, () -> house.beside(0, -1, 0));
         Belowhouse five = new Belowhouse();
         five.lay(0, 5);
+        five.lay(1, 6);
+        Due.isThrown("beside(0, 1, 4)", Due.NO_INDEX, five, () -> five.beside(0, 1, 4));
+        Due.isThrown("beside(4, 1, 0)", Due.NO_INDEX, five, () -> five.beside(4, 1, 0));
+        Due.isThrown("beside(0, -1, 0)", Due.NO_INDEX, five, () -> five.beside(0, -1, 0));
         Due.isThrown("10 things", Due.NO_STATE, five, () -> five.beside(0, 0, 1));
     }
 
