@@ -492,8 +492,11 @@ public final class Belowhouse {
         void standAs(int[] line) {
             int ahead = 0;
             for (int k = 0; k < count; k++) {
-                below[line[k]] = ahead;
-                ahead |= 1 << line[k];
+                int thing = line[k];
+                if (hasThing(thing)) {
+                    below[thing] = ahead;
+                    ahead |= 1 << thing;
+                }
             }
         }
 
@@ -1050,7 +1053,8 @@ public final class Belowhouse {
             int total = 0;
             for (int low = 0; low < it.count; low++) {
                 if (low == thing || it.isBelow(low, thing)) {
-                    total += it.sumUpTo(low) * between(it, low, thing);
+                    fillFrom(it, low);
+                    total += it.sumUpTo(low) * ofHigh[thing];
                 }
             }
             return total;
@@ -1071,7 +1075,7 @@ public final class Belowhouse {
         private int sumBelow(Order it, int high) {
             int total = 0;
             for (int k = 0; k < it.count; k++) {
-                if (it.isBelow(k, high)) {
+                if (has(it.below[high], k)) {
                     total += ofHigh[k];
                 }
             }
@@ -1129,7 +1133,7 @@ public final class Belowhouse {
         private boolean linksLeast(Order it) {
             for (int low = 0; low < it.count; low++) {
                 for (int high = 0; high < it.count; high++) {
-                    if (!linksLeast(it, low, high)) {
+                    if (!linksLeastFor(it, low, high)) {
                         return false;
                     }
                 }
@@ -1137,7 +1141,7 @@ public final class Belowhouse {
             return true;
         }
 
-        private boolean linksLeast(Order it, int low, int high) {
+        private boolean linksLeastFor(Order it, int low, int high) {
             tried.become(it);
             boolean isRefused = tried.link(low, high) == REFUSED;
             if (isRefused != (low == high || it.isBelow(high, low))) {
